@@ -804,6 +804,10 @@ public final class YesPlanes {
         int many = 0;
         private final int[] who = new int[MOST];
         private final Fraction[] shares = new Fraction[MOST];
+        private final int[] yes = new int[MOST_POINTS];
+        private final int[] no = new int[MOST_POINTS];
+        private int yesMany = 0;
+        private int noMany = 0;
         private int seen = -1;
 
         Meeting() {
@@ -836,6 +840,7 @@ public final class YesPlanes {
                 return;
             }
             seen = p.changes;
+            gather(p);
             if (findOnePlace(p)) {
                 shareAlone(p, 0);
                 shareAlone(p, 1);
@@ -856,11 +861,25 @@ public final class YesPlanes {
             }
         }
 
-        private boolean findOnePlace(Points p) {
+        private void gather(Points p) {
+            yesMany = 0;
+            noMany = 0;
             for (int i = 0; i < p.many; i++) {
-                for (int k = 0; k < p.many; k++) {
-                    if (p.colour[i] == YES && p.colour[k] == NO && p.samePlace(i, k)) {
-                        return hold(1, 2, i, k, 0, 0);
+                if (p.colour[i] == YES) {
+                    yes[yesMany] = i;
+                    yesMany++;
+                } else {
+                    no[noMany] = i;
+                    noMany++;
+                }
+            }
+        }
+
+        private boolean findOnePlace(Points p) {
+            for (int i = 0; i < yesMany; i++) {
+                for (int k = 0; k < noMany; k++) {
+                    if (p.samePlace(yes[i], no[k])) {
+                        return hold(1, 2, yes[i], no[k], 0, 0);
                     }
                 }
             }
@@ -868,11 +887,11 @@ public final class YesPlanes {
         }
 
         private boolean findYesBetween(Points p) {
-            for (int i = 0; i < p.many; i++) {
-                for (int j = 0; p.colour[i] == YES && j < p.many; j++) {
-                    for (int k = j + 1; p.colour[j] == NO && k < p.many; k++) {
-                        if (p.colour[k] == NO && isBetween(p, i, j, k)) {
-                            return hold(2, 3, i, j, k, 0);
+            for (int i = 0; i < yesMany; i++) {
+                for (int j = 0; j < noMany; j++) {
+                    for (int k = j + 1; k < noMany; k++) {
+                        if (isBetween(p, yes[i], no[j], no[k])) {
+                            return hold(2, 3, yes[i], no[j], no[k], 0);
                         }
                     }
                 }
@@ -881,11 +900,11 @@ public final class YesPlanes {
         }
 
         private boolean findNoBetween(Points p) {
-            for (int i = 0; i < p.many; i++) {
-                for (int j = i + 1; p.colour[i] == YES && j < p.many; j++) {
-                    for (int k = 0; p.colour[j] == YES && k < p.many; k++) {
-                        if (p.colour[k] == NO && isBetween(p, k, i, j)) {
-                            return hold(2, 3, i, j, k, 0);
+            for (int i = 0; i < yesMany; i++) {
+                for (int j = i + 1; j < yesMany; j++) {
+                    for (int k = 0; k < noMany; k++) {
+                        if (isBetween(p, no[k], yes[i], yes[j])) {
+                            return hold(2, 3, yes[i], yes[j], no[k], 0);
                         }
                     }
                 }
@@ -894,12 +913,12 @@ public final class YesPlanes {
         }
 
         private boolean findYesWithin(Points p) {
-            for (int i = 0; i < p.many; i++) {
-                for (int j = 0; p.colour[i] == YES && j < p.many; j++) {
-                    for (int k = j + 1; p.colour[j] == NO && k < p.many; k++) {
-                        int third = p.colour[k] == NO ? thirdAround(p, i, j, k) : NONE;
+            for (int i = 0; i < yesMany; i++) {
+                for (int j = 0; j < noMany; j++) {
+                    for (int k = j + 1; k < noMany; k++) {
+                        int third = thirdAround(p, i, j, k);
                         if (third != NONE) {
-                            return hold(3, 4, i, j, k, third);
+                            return hold(3, 4, yes[i], no[j], no[k], third);
                         }
                     }
                 }
@@ -907,28 +926,28 @@ public final class YesPlanes {
             return false;
         }
 
-        /** The first point above k, of its colour, that makes with j and k a triangle about i. */
-        private static int thirdAround(Points p, int i, int j, int k) {
-            int turning = p.turn(j, k, i);
+        /** The first no behind the k-th that makes, with it and the j-th, a triangle about the i-th yes. */
+        private int thirdAround(Points p, int i, int j, int k) {
+            int turning = p.turn(no[j], no[k], yes[i]);
             if (turning == 0) {
                 return NONE;
             }
-            for (int l = k + 1; l < p.many; l++) {
-                if (p.colour[l] == p.colour[k] && isSameSide(turning, p.turn(k, l, i))
-                        && isSameSide(turning, p.turn(l, j, i))) {
-                    return l;
+            for (int l = k + 1; l < noMany; l++) {
+                if (isSameSide(turning, p.turn(no[k], no[l], yes[i]))
+                        && isSameSide(turning, p.turn(no[l], no[j], yes[i]))) {
+                    return no[l];
                 }
             }
             return NONE;
         }
 
         private boolean findNoWithin(Points p) {
-            for (int i = 0; i < p.many; i++) {
-                for (int j = i + 1; p.colour[i] == YES && j < p.many; j++) {
-                    for (int k = j + 1; p.colour[j] == YES && k < p.many; k++) {
-                        int inner = p.colour[k] == YES ? firstNoWithin(p, i, j, k) : NONE;
+            for (int i = 0; i < yesMany; i++) {
+                for (int j = i + 1; j < yesMany; j++) {
+                    for (int k = j + 1; k < yesMany; k++) {
+                        int inner = firstNoWithin(p, yes[i], yes[j], yes[k]);
                         if (inner != NONE) {
-                            return hold(3, 4, i, j, k, inner);
+                            return hold(3, 4, yes[i], yes[j], yes[k], inner);
                         }
                     }
                 }
@@ -936,24 +955,27 @@ public final class YesPlanes {
             return false;
         }
 
-        private static int firstNoWithin(Points p, int i, int j, int k) {
-            int turning = p.turn(i, j, k);
-            for (int l = 0; turning != 0 && l < p.many; l++) {
-                if (p.colour[l] == NO && isSameSide(turning, p.turn(i, j, l))
-                        && isSameSide(turning, p.turn(j, k, l)) && isSameSide(turning, p.turn(k, i, l))) {
-                    return l;
+        private int firstNoWithin(Points p, int a, int b, int c) {
+            int turning = p.turn(a, b, c);
+            if (turning == 0) {
+                return NONE;
+            }
+            for (int l = 0; l < noMany; l++) {
+                if (isSameSide(turning, p.turn(a, b, no[l])) && isSameSide(turning, p.turn(b, c, no[l]))
+                        && isSameSide(turning, p.turn(c, a, no[l]))) {
+                    return no[l];
                 }
             }
             return NONE;
         }
 
         private boolean findCrossing(Points p) {
-            for (int i = 0; i < p.many; i++) {
-                for (int j = i + 1; p.colour[i] == YES && j < p.many; j++) {
-                    for (int k = 0; p.colour[j] == YES && k < p.many; k++) {
-                        int other = p.colour[k] == NO ? otherEndAcross(p, i, j, k) : NONE;
+            for (int i = 0; i < yesMany; i++) {
+                for (int j = i + 1; j < yesMany; j++) {
+                    for (int k = 0; k < noMany; k++) {
+                        int other = otherEndAcross(p, yes[i], yes[j], k);
                         if (other != NONE) {
-                            return hold(4, 4, i, j, k, other);
+                            return hold(4, 4, yes[i], yes[j], no[k], other);
                         }
                     }
                 }
@@ -961,16 +983,16 @@ public final class YesPlanes {
             return false;
         }
 
-        /** The first no above k, so that the line from k to it crosses that from i to j. */
-        private static int otherEndAcross(Points p, int i, int j, int k) {
-            int kSide = p.turn(i, j, k);
-            if (kSide == 0) {
+        /** The first no behind the k-th, so that the line from that to it crosses the one from a to b. */
+        private int otherEndAcross(Points p, int a, int b, int k) {
+            int firstSide = p.turn(a, b, no[k]);
+            if (firstSide == 0) {
                 return NONE;
             }
-            for (int l = k + 1; l < p.many; l++) {
-                if (p.colour[l] == NO && isSameSide(kSide, -p.turn(i, j, l))
-                        && isSameSide(p.turn(k, l, i), -p.turn(k, l, j))) {
-                    return l;
+            for (int l = k + 1; l < noMany; l++) {
+                if (isSameSide(firstSide, -p.turn(a, b, no[l]))
+                        && isSameSide(p.turn(no[k], no[l], a), -p.turn(no[k], no[l], b))) {
+                    return no[l];
                 }
             }
             return NONE;

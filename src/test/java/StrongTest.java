@@ -17,14 +17,6 @@ final class StrongTest {
         DUE.end();
     }
 
-    private static YesPlanes with(int... xyc) {
-        YesPlanes x = new YesPlanes();
-        for (int i = 0; i + 2 < xyc.length; i += 3) {
-            x.point(xyc[i], xyc[i + 1], xyc[i + 2]);
-        }
-        return x;
-    }
-
     private static void step(YesPlanes x, int k, long... want) {
         for (int what = 0; what < want.length; what++) {
             DUE.is("step(" + k + ", " + what + ")", x.step(k, what), want[what]);
@@ -40,14 +32,14 @@ final class StrongTest {
     }
 
     private static void refused() {
-        DUE.is("strong without points", with().strong(1), -6);
-        DUE.is("strong(0)", with(0, 0, 1).strong(0), -1);
-        DUE.is("strong(13)", with(0, 0, 1).strong(13), -1);
-        DUE.is("strong: -1 goes ahead of -6", with().strong(0), -1);
+        DUE.is("strong without points", Given.points().strong(1), -6);
+        DUE.is("strong(0)", Given.points(0, 0, 1).strong(0), -1);
+        DUE.is("strong(13)", Given.points(0, 0, 1).strong(13), -1);
+        DUE.is("strong: -1 goes ahead of -6", Given.points().strong(0), -1);
     }
 
     private static void aheadOfAny() {
-        YesPlanes x = with(0, 0, 1);
+        YesPlanes x = Given.points(0, 0, 1);
         DUE.is("ahead: end()", x.end(), -1);
         DUE.is("ahead: step", x.step(0, 0), WITHOUT);
         DUE.is("ahead: mass", x.mass(0), -1);
@@ -55,7 +47,7 @@ final class StrongTest {
     }
 
     private static void sure() {
-        YesPlanes x = with(0, 9, 0, 5, -9, 1, 3, 0, 0, 8, 8, 1);
+        YesPlanes x = Given.points(0, 9, 0, 5, -9, 1, 3, 0, 0, 8, 8, 1);
         x.paint(2, 0, 10);
         DUE.is("sure: strong(12)", x.strong(12), 1);
         DUE.is("sure: end()", x.end(), 1);
@@ -69,7 +61,7 @@ final class StrongTest {
         DUE.is("sure: vote no", x.vote(3, 0), 0);
         DUE.is("sure: vote anywhere", x.vote(Integer.MAX_VALUE, Integer.MIN_VALUE), 1);
         DUE.is("sure: vote anywhere", x.vote(Integer.MIN_VALUE, Integer.MAX_VALUE), 0);
-        YesPlanes y = with(0, 0, 1, 0, 1, 0, 1, 0, 1, 1, 1, 0);
+        YesPlanes y = Given.points(0, 0, 1, 0, 1, 0, 1, 0, 1, 1, 1, 0);
         y.strong(3);
         step(y, 0, 1, 0, 1, 0, 4);
         DUE.is("sure, other sign: vote", y.vote(0, 0), 1);
@@ -77,21 +69,21 @@ final class StrongTest {
     }
 
     private static void sureAtTheLowestEdge() {
-        YesPlanes yes = with(-300, 4, 1, 7, 7, 1);
+        YesPlanes yes = Given.points(-300, 4, 1, 7, 7, 1);
         yes.strong(1);
         step(yes, 0, 0, -301, 0, 0, 2);
-        YesPlanes no = with(-300, 4, 0, 7, 7, 0);
+        YesPlanes no = Given.points(-300, 4, 0, 7, 7, 0);
         no.strong(1);
         step(no, 0, 0, -301, 1, 0, 2);
         DUE.is("all no: vote", no.vote(-400, 0), 1);
         DUE.is("all no: vote", no.vote(-300, 0), 0);
-        YesPlanes high = with(300, 300, 0, 299, 300, 1);
+        YesPlanes high = Given.points(300, 300, 0, 299, 300, 1);
         high.strong(1);
         step(high, 0, 0, 299, 1, 0, 2);
     }
 
     private static void stuck() {
-        YesPlanes x = with(5, 5, 1, 5, 5, 0);
+        YesPlanes x = Given.points(5, 5, 1, 5, 5, 0);
         DUE.is("stuck: strong(5)", x.strong(5), 0);
         DUE.is("stuck: end()", x.end(), 2);
         DUE.is("stuck: step", x.step(0, 0), WITHOUT);
@@ -107,7 +99,7 @@ final class StrongTest {
 
     /** Yes, no, yes in a row: each round is worked out by hand. */
     private static void byRounds() {
-        YesPlanes x = with(1, 0, 1, 2, 0, 0, 3, 0, 1);
+        YesPlanes x = Given.points(1, 0, 1, 2, 0, 0, 3, 0, 1);
         DUE.is("rounds: strong(1)", x.strong(1), 1);
         DUE.is("rounds: end()", x.end(), 0);
         step(x, 0, 0, -301, 0, 1, 3);
@@ -126,7 +118,7 @@ final class StrongTest {
     }
 
     private static void massesAreDivided() {
-        YesPlanes x = with(1, 0, 1, 2, 0, 0, 3, 0, 1);
+        YesPlanes x = Given.points(1, 0, 1, 2, 0, 0, 3, 0, 1);
         for (int i = 0; i < 3; i++) {
             x.paint(i, x.of(i, 2), 1000);
         }
@@ -143,10 +135,10 @@ final class StrongTest {
 
     /** Two steps of like strength that say unlike things of a place. */
     private static void voteEven() {
-        YesPlanes y = with(0, 0, 1, 0, 0, 0);
+        YesPlanes y = Given.points(0, 0, 1, 0, 0, 0);
         y.strong(4);
         DUE.is("vote: without steps even", y.vote(0, 0), 2);
-        YesPlanes x = with(2, 1, 1, 2, 1, 0, 1, 1, 1);
+        YesPlanes x = Given.points(2, 1, 1, 2, 1, 0, 1, 1, 1);
         x.paint(0, 1, 3);
         x.paint(1, 0, 2);
         x.paint(2, 1, 3);
@@ -187,7 +179,7 @@ final class StrongTest {
     }
 
     private static void latestStays() {
-        YesPlanes x = with(1, 0, 1, 2, 0, 0, 3, 0, 1);
+        YesPlanes x = Given.points(1, 0, 1, 2, 0, 0, 3, 0, 1);
         x.image(0);
         x.strong(1);
         x.strong(0);
