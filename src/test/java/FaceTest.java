@@ -32,7 +32,8 @@ final class FaceTest {
 
     private static void face() {
         Class<YesPlanes> face = YesPlanes.class;
-        DUE.holds("public final class", Modifier.isPublic(face.getModifiers()) && Modifier.isFinal(face.getModifiers()));
+        DUE.holds("public final class",
+                Modifier.isPublic(face.getModifiers()) && Modifier.isFinal(face.getModifiers()));
         Set<String> found = new TreeSet<>();
         for (Method m : face.getDeclaredMethods()) {
             if (Modifier.isPrivate(m.getModifiers())) {
@@ -47,7 +48,8 @@ final class FaceTest {
         for (Field f : face.getDeclaredFields()) {
             boolean isNone = f.getName().equals("NONE") && Modifier.isPublic(f.getModifiers());
             DUE.holds(f + " is private", isNone || Modifier.isPrivate(f.getModifiers()));
-            DUE.holds(f + " is final if static", !Modifier.isStatic(f.getModifiers()) || Modifier.isFinal(f.getModifiers()));
+            DUE.holds(f + " is final if static",
+                    !Modifier.isStatic(f.getModifiers()) || Modifier.isFinal(f.getModifiers()));
         }
         Constructor<?>[] made = face.getDeclaredConstructors();
         DUE.holds("one public constructor without arguments",
@@ -88,8 +90,8 @@ final class FaceTest {
     private static void source(Path file) throws Exception {
         String text = Files.readString(file);
         String code = text.replaceAll("(?s)/\\*.*?\\*/", "").replaceAll("//[^\n]*", "");
-        String[] banned = {"throw", "throws", "try", "catch", "finally", "synchronized", "assert", "package", "hashCode",
-            "toString", "equals", "\\w+Exact", "->", "::", "double", "float", "protected", "volatile", "native"};
+        String[] banned = {"throw", "throws", "try", "catch", "finally", "synchronized", "assert", "package",
+            "hashCode", "toString", "equals", "\\w+Exact", "->", "::", "double", "float", "protected", "volatile", "native"};
         for (String word : banned) {
             String pattern = Character.isLetter(word.charAt(0)) || word.startsWith("\\") ? "\\b" + word + "\\b" : word;
             DUE.holds("no " + word, !Pattern.compile(pattern).matcher(code).find());

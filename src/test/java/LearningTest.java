@@ -89,6 +89,9 @@ final class LearningTest {
         DUE.is("judge: no room", x.judge(1, 1, 1), -5);
         DUE.is("judge: -1 goes ahead of -5", x.judge(0, 0, 1), -1);
         DUE.is("judge: count", x.count(3), 12);
+        x.point(1, 0, 1);
+        DUE.is("judge: all twelve are asked", x.halve(), 0);
+        DUE.is("judge: all twelve are in", x.left(), 4095);
     }
 
     private static void halve() {

@@ -42,6 +42,9 @@ final class OracleTest {
         for (int run = 0; run < 150 && DUE.isFine(); run++) {
             new OracleTest(900000L + run, 3 + run % 12, 40, 0, 1).coverManyYes();
         }
+        for (int run = 0; run < 100 && DUE.isFine(); run++) {
+            new OracleTest(905000L + run, 302, 40, 100, 1).playSheets();
+        }
         for (int run = 0; run < 8 && DUE.isFine(); run++) {
             new OracleTest(910000L + run, run % 2 == 0 ? 300 : 25, 40, 0, 0).partAllForty();
         }
@@ -61,6 +64,28 @@ final class OracleTest {
             same("boxes()", fast.boxes(), slow.boxes());
             int i = random.nextInt(slow.count(0));
             same("drop(" + i + ")", fast.drop(i), slow.drop(i));
+        }
+    }
+
+    /** Sheets of like lengths from the first, and numbers that are seldom too great for points. */
+    private void playSheets() {
+        for (int s = 0; s < 4; s++) {
+            same("sheet(" + s + ", " + (3 - s) + ", 13)", fast.sheet(s, 3 - s, 13), slow.sheet(s, 3 - s, 13));
+            for (int i = 0; i < 13; i++) {
+                int v = some(-spread, spread);
+                same("write(" + s + ", " + i + ", " + v + ")", fast.write(s, i, v), slow.write(s, i, v));
+            }
+        }
+        for (int n = 0; n < 300; n++) {
+            useSheets();
+            same("status()", fast.status(), slow.status());
+            int i = pointNumber();
+            if (random.nextInt(3) == 0) {
+                same("drop(" + i + ")", fast.drop(i), slow.drop(i));
+            }
+            for (int what = 0; what <= 3; what++) {
+                same("of(" + i + ", " + what + ")", fast.of(i, what), slow.of(i, what));
+            }
         }
     }
 

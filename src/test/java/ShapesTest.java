@@ -26,7 +26,8 @@ final class ShapesTest {
     }
 
     private static void hullOfASquare() {
-        YesPlanes x = Given.points(4, 4, 1, 0, 4, 1, 2, 2, 1, 0, 0, 1, 4, 0, 1, 0, 2, 1, 2, 0, 1, 4, 4, 1, 0, 0, 1, 9, 9, 0);
+        YesPlanes x = Given.points(4, 4, 1, 0, 4, 1, 2, 2, 1, 0, 0, 1, 4, 0, 1, 0, 2, 1, 2, 0, 1,
+                4, 4, 1, 0, 0, 1, 9, 9, 0);
         hull(x, "square", 1, 3, 4, 0, 1);
         hull(x, "one of the other colour", 0, 9);
         x.paint(3, 0, 1);
@@ -46,6 +47,17 @@ final class ShapesTest {
         }
         DUE.is("all are corners", round.hull(0, -1), 17);
         DUE.is("all are corners, the lower ones first", round.hull(0, 16), 16);
+        YesPlanes most = new YesPlanes();
+        for (int k = -10; k < 10; k++) {
+            most.point(10 * k, k * k, 1);
+        }
+        for (int k = 9; k >= -10; k--) {
+            most.point(10 * k, 300 - k * k, 1);
+        }
+        DUE.is("forty corners", most.hull(1, -1), 40);
+        for (int i = 0; i < 40; i++) {
+            DUE.is("forty corners in their order", most.hull(1, i), i);
+        }
     }
 
     private static void hullRefused() {

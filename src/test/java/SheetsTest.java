@@ -102,6 +102,11 @@ final class SheetsTest {
         DUE.is("copy: missing", x.copy(2, 0, 0, 0, 1), -2);
         DUE.is("copy: missing, ahead of -3", x.copy(0, 99, 2, 0, 1), -2);
         DUE.is("copy: refused changes nothing", x.read(1, 0), -5);
+        x.sheet(0, 3, 100);
+        x.sheet(1, 0, 100);
+        x.write(0, 99, 511);
+        DUE.is("copy: the longest sheet", x.copy(0, 0, 1, 0, 100), 100);
+        DUE.is("copy: the longest sheet", x.read(1, 99), -1);
     }
 
     private static void copyOnItself() {
@@ -169,6 +174,15 @@ final class SheetsTest {
         DUE.is("take: -3 goes ahead of the second -1", x.take(0, 2, 50 - 10, 1), -1);
         DUE.is("take: -3 goes ahead of the second -1", x.take(0, 98, 2, 1), -3);
         DUE.is("take: what lies ahead is not looked at", x.take(0, 3, 1, 1), 1);
+        DUE.is("take: what lies behind is not looked at", x.take(0, 0, 1, 1), 2);
+        DUE.is("take: what lies behind is not looked at", x.drop(1), 1);
+        x.write(0, 12, 301);
+        DUE.is("take: the last of five y", x.take(0, 3, 5, 1), -1);
+        DUE.is("take: behind the last of four y", x.take(0, 4, 4, 1), 5);
+        for (int i = 4; i >= 1; i--) {
+            x.drop(i);
+        }
+        x.write(0, 12, 0);
         DUE.is("take: 40 at once, one too many", x.take(0, 3, 40, 1), -5);
         DUE.is("take: the second -1 goes ahead of -5", x.take(0, 0, 40, 1), -1);
         DUE.is("take: all or none", x.count(0), 1);
