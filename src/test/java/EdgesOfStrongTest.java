@@ -5,6 +5,8 @@ final class EdgesOfStrongTest {
     private static final int BY_ROUNDS = 0;
     private static final int SURE = 1;
     private static final int STUCK = 2;
+    private static final int SPENT = 3;
+    private static final long MOST_MASS = 1L << 40;
 
     public static void main(String[] args) {
         aheadOfAny();
@@ -18,6 +20,9 @@ final class EdgesOfStrongTest {
         sureIsTheOnlyOne();
         stuckAtOnce();
         stuckLater();
+        aMassOf2ToThe40();
+        aMassAbove2ToThe40();
+        spentInTheLastRoundOrBefore();
         theHeaviest();
         stepsThatAreNotThere();
         massesOfPointsThen();
@@ -208,6 +213,73 @@ final class EdgesOfStrongTest {
         masses(x, "30: behind the first", 1, 1);
         DUE.is("31: by the first alone", x.vote(3, 3), 1);
         DUE.is("31: by the first alone", x.vote(-301, 3), 0);
+    }
+
+    private static void heap(YesPlanes x, int px, int py, int colour, int weight) {
+        for (int rest = weight; rest > 0; rest -= 1000) {
+            int n = x.point(px, py, colour);
+            x.paint(n - 1, colour, Math.min(rest, 1000));
+        }
+    }
+
+    /**
+     * Three steps: x above 0 is wrong of points 1 and 2, y above -1 of points 1, 3 and 4, x above 3 of
+     * point 0 alone. In the third round point 0 becomes as heavy as all others together.
+     */
+    private static YesPlanes threeSteps(int alone, int inBoth, int inFirst, int inSecond, int inNone) {
+        YesPlanes x = new YesPlanes();
+        heap(x, 3, 1, 1, alone);
+        heap(x, 3, 1, 0, inBoth);
+        heap(x, 3, -1, 0, inFirst);
+        heap(x, 9, -1, 1, 1);
+        heap(x, 9, -1, 1, inSecond - 1);
+        heap(x, 0, -1, 0, inNone / 2);
+        heap(x, 9, 1, 1, inNone - inNone / 2);
+        return x;
+    }
+
+    private static long othersThanPoint0(YesPlanes x) {
+        long sum = 0;
+        for (int i = 1; i < x.count(0); i++) {
+            sum += x.mass(i);
+        }
+        return sum;
+    }
+
+    /** IV: if one would be above 2 to the 40: one that is just that is not above. */
+    private static void aMassOf2ToThe40() {
+        YesPlanes x = threeSteps(888, 1, 516, 570, 31532);
+        ends(x, "27: two rounds", 2, 2, BY_ROUNDS);
+        DUE.is("30: all others have 2 to the 40", othersThanPoint0(x), MOST_MASS);
+        ends(x, "27: a mass of 2 to the 40", 3, 3, BY_ROUNDS);
+        step(x, "28: a mass of 2 to the 40", 0, 0, 0, 0, 517, 33507);
+        step(x, "28: a mass of 2 to the 40", 1, 1, -1, 0, 327680, 34111660);
+        step(x, "28: a mass of 2 to the 40", 2, 0, 3, 0, 7521828864L, 1107033456640L);
+        DUE.is("30: a mass of 2 to the 40", x.mass(0), MOST_MASS);
+        DUE.is("30: the others are as they were", othersThanPoint0(x), MOST_MASS);
+    }
+
+    /** IV: SPENT, the end (masses stay); the step is kept. */
+    private static void aMassAbove2ToThe40() {
+        YesPlanes x = threeSteps(959, 3, 451, 699, 23648);
+        ends(x, "27: two rounds", 2, 2, BY_ROUNDS);
+        DUE.is("30: all others have 2 more than 2 to the 40", othersThanPoint0(x), MOST_MASS + 2);
+        DUE.is("30: point 0 ahead of it", x.mass(0), 10701352494L);
+        ends(x, "27: a mass above 2 to the 40", 3, 3, SPENT);
+        step(x, "28: a mass above 2 to the 40", 2, 0, 3, 0, 10701352494L, 1110212980272L);
+        DUE.is("30: masses stay", x.mass(0), 10701352494L);
+        DUE.is("30: masses stay", othersThanPoint0(x), MOST_MASS + 2);
+        DUE.is("31: the last step votes too: 56 * 103 against 57", x.vote(9, -1), 1);
+        DUE.is("31: the last step votes too: 57 against 56 * 103", x.vote(0, 1), 0);
+    }
+
+    private static void spentInTheLastRoundOrBefore() {
+        YesPlanes x = threeSteps(767, 2, 359, 670, 5082);
+        for (int rounds = 3; rounds <= 12; rounds++) {
+            ends(x, "27: spent", rounds, 3, SPENT);
+            DUE.is("30: spent, masses stay", x.mass(0), 35290355698L);
+        }
+        ends(x, "27: a round less", 2, 2, BY_ROUNDS);
     }
 
     private static void theHeaviest() {
