@@ -19,6 +19,7 @@ final class EdgesOfPartingTest {
         meetAsksWhatFirst();
         meetHasNoMorePoints();
         touchingIsMeeting();
+        theNextPlacesMeet();
         severalOfOnePlace();
         severalBetween();
         severalBetweenFewerYes();
@@ -225,6 +226,28 @@ final class EdgesOfPartingTest {
         noMeeting(Given.points(0, 0, 0, 6, 0, 0, 0, 6, 0, 3, 4, 1), "14: just outside an edge");
         YesPlanes inside = Given.points(0, 0, 0, 6, 0, 0, 0, 6, 0, 3, 2, 1);
         meeting(inside, "14: just inside an edge", 3, new int[] {3, 0, 1, 2}, 1, 1, 1, 6, 1, 2, 1, 3);
+    }
+
+    /** The least row, triangle and cross that there are, turned about both ways. */
+    private static void theNextPlacesMeet() {
+        YesPlanes row = Given.points(0, 0, 0, 1, 1, 1, 2, 2, 0);
+        meeting(row, "14: the least row", 2, new int[] {1, 0, 2}, 1, 1, 1, 2, 1, 2);
+        YesPlanes left = Given.points(0, 0, 0, 2, 1, 0, 1, 2, 0, 1, 1, 1);
+        meeting(left, "14: the least triangle", 3, new int[] {3, 0, 1, 2}, 1, 1, 1, 3, 1, 3, 1, 3);
+        YesPlanes right = Given.points(0, 0, 0, 1, 2, 0, 2, 1, 0, 1, 1, 1);
+        meeting(right, "14: the least triangle", 3, new int[] {3, 0, 1, 2}, 1, 1, 1, 3, 1, 3, 1, 3);
+        YesPlanes leftOfYes = Given.points(0, 0, 1, 2, 1, 1, 1, 2, 1, 1, 1, 0);
+        meeting(leftOfYes, "14: the least triangle of yes", 3, new int[] {0, 1, 2, 3}, 1, 3, 1, 3, 1, 3, 1, 1);
+        YesPlanes rightOfYes = Given.points(0, 0, 1, 1, 2, 1, 2, 1, 1, 1, 1, 0);
+        meeting(rightOfYes, "14: the least triangle of yes", 3, new int[] {0, 1, 2, 3}, 1, 3, 1, 3, 1, 3, 1, 1);
+        YesPlanes cross = Given.points(0, 0, 1, 1, 1, 1, 1, 0, 0, 0, 1, 0);
+        meeting(cross, "14: the least cross", 4, new int[] {0, 1, 2, 3}, 1, 2, 1, 2, 1, 2, 1, 2);
+        place(cross, "14: the least cross", 1, 2, 1, 2);
+        YesPlanes back = Given.points(0, 0, 1, 1, 1, 1, 0, 1, 0, 1, 0, 0);
+        meeting(back, "14: the least cross", 4, new int[] {0, 1, 2, 3}, 1, 2, 1, 2, 1, 2, 1, 2);
+        YesPlanes far = Given.points(-299, -299, 1, -300, -300, 1, -300, -299, 0, -299, -300, 0);
+        meeting(far, "14: the least cross, far out", 4, new int[] {0, 1, 2, 3}, 1, 2, 1, 2, 1, 2, 1, 2);
+        place(far, "14: the least cross, far out", -599, 2, -599, 2);
     }
 
     /** II: of several the first by the number of its yes, then of its no. */

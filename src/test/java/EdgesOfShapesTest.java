@@ -10,15 +10,18 @@ final class EdgesOfShapesTest {
         hullLeavesOutEdges();
         hullTakesTheLowestNumber();
         hullOfTheFarthest();
+        hullOfTheNearest();
         cornersThatAreNotThere();
         depthOfNone();
         depthUpTo1000();
         depthOnPoints();
+        depthAmongTheNearest();
         depthOnARow();
         depthOfForty();
         noSuchPair();
         onlyTwoPlaces();
         noMoreThanHalf();
+        theNearestBeside();
         theFirstPair();
         theLastPoints();
         boxesOfNoYes();
@@ -104,6 +107,11 @@ final class EdgesOfShapesTest {
         hull(Given.points(-300, -300, 1, 300, 300, 1, 299, 299, 1), "32: no sliver", 1, 0, 1);
     }
 
+    private static void hullOfTheNearest() {
+        hull(Given.points(0, 0, 1, 0, 1, 1, 1, 0, 1), "32: the least triangle", 1, 0, 2, 1);
+        hull(Given.points(1, 1, 1, 0, 1, 1, 1, 0, 1, 0, 0, 1), "32: the least square", 1, 3, 2, 0, 1);
+    }
+
     private static void cornersThatAreNotThere() {
         YesPlanes x = Given.points(0, 0, 1, 9, 0, 1, 0, 9, 1);
         int[] wrong = {-2, 3, 40, Integer.MIN_VALUE, Integer.MAX_VALUE};
@@ -160,6 +168,18 @@ final class EdgesOfShapesTest {
         }
         DUE.is("33: all forty there", all.depth(-7, 7), 40);
         DUE.is("33: all forty elsewhere", all.depth(-7, 8), 0);
+    }
+
+    /** The nearest places about one: each line leaves two of four, or one of three, beside it. */
+    private static void depthAmongTheNearest() {
+        YesPlanes four = Given.points(1, 0, 1, 0, 1, 1, -1, 0, 0, 0, -1, 0);
+        DUE.is("33: four about it", four.depth(0, 0), 2);
+        DUE.is("33: four, at one of them", four.depth(1, 0), 1);
+        four.drop(3);
+        DUE.is("33: three about it", four.depth(0, 0), 1);
+        DUE.is("33: three, just outside", four.depth(0, -1), 0);
+        YesPlanes more = Given.points(1, 0, 1, 0, 1, 1, -1, 0, 0, 0, -1, 0, 1, 1, 0, -1, -1, 0, 0, 0, 1);
+        DUE.is("33: six about it and one there", more.depth(0, 0), 4);
     }
 
     private static void depthOnARow() {
@@ -221,6 +241,13 @@ final class EdgesOfShapesTest {
         DUE.is("34: half of the yes on either side", both.halves(), 1);
         YesPlanes yesOff = Given.points(0, 0, 0, 9, 0, 0, 4, 5, 1, 5, 6, 1);
         DUE.is("34: two of two yes beside are more", yesOff.halves() != 1 ? 1 : 0, 1);
+    }
+
+    private static void theNearestBeside() {
+        DUE.is("34: the only yes just to the left", Given.points(0, 0, 0, 1, 0, 0, 0, 1, 1).halves(), 2);
+        DUE.is("34: the only yes just to the right", Given.points(0, 0, 0, 1, 0, 0, 0, -1, 1).halves(), 2);
+        DUE.is("34: the only no just to the left", Given.points(0, 0, 1, 1, 0, 1, 0, 1, 0).halves(), 2);
+        DUE.is("34: the only no just to the right", Given.points(0, 0, 1, 1, 0, 1, 0, -1, 0).halves(), 2);
     }
 
     /** V: by i, then k; i below k. */
@@ -344,6 +371,7 @@ final class EdgesOfShapesTest {
     private static void boxesOfTheFarthest() {
         DUE.is("35: all there is", Given.points(-300, -300, 1, 300, 300, 1).boxes(), 1);
         DUE.is("35: a no at the last corner", Given.points(-300, -300, 1, 300, 300, 1, 300, -300, 0).boxes(), 2);
+        DUE.is("35: a no that is the first point", Given.points(0, 0, 0, -1, 0, 1, 1, 0, 1).boxes(), 2);
         DUE.is("35: a no at another corner", Given.points(-300, -300, 1, 300, 300, 1, -300, 300, 0).boxes(), 2);
     }
 }

@@ -125,7 +125,7 @@ final class EdgesOfStateTest {
 
     private static void imageIsNoLaterBench() {
         YesPlanes x = Given.points(1, 2, 1, 3, 4, 0);
-        x.judge(1, 0, 2);
+        x.judge(1, -5, -10);
         x.learn(1);
         x.image(0);
         long p = x.learnt(0);
@@ -146,8 +146,8 @@ final class EdgesOfStateTest {
             DUE.is("37: judges", x.count(3), 1);
             DUE.is("37: p", x.learnt(0), p);
             DUE.is("37: rounds", x.learnt(4), 1);
-            x.halve();
-            DUE.is("37: the judge of then", x.left(), 0);
+            DUE.is("37: the judge of then", x.halve(), 0);
+            DUE.is("37: the judge of then", x.left(), 1);
         }
     }
 
@@ -299,6 +299,7 @@ final class EdgesOfStateTest {
         told(x, "write -2", x.write(1, 0, 0), -2);
         told(x, "write -3", x.write(0, 0, 0), -3);
         x.sheet(0, 3, 1);
+        x.write(0, 1, 0);
         told(x, "write", x.write(0, 0, -7), 0);
         x.write(9, 0, 0);
         DUE.is("39: read() of a number below 0", x.read(0, 0), -7);

@@ -28,6 +28,7 @@ final class EdgesOfStrongTest {
         massesOfPointsThen();
         weightsAreTakenAnew();
         refusedLeavesTheLatest();
+        voteOfTwoAgainstOne();
         voteOnAnyNumbers();
         DUE.end();
     }
@@ -360,6 +361,21 @@ final class EdgesOfStrongTest {
         masses(x, "30: refused", 5, 2, 3);
         step(x, "28: refused", 2, 0, 2, 0, 1, 6);
         DUE.is("31: refused", x.vote(1, 0), 1);
+    }
+
+    /** IV: the product of (T - E) / E: 17 / 5 * 28 / 6 is below 22 / 1. */
+    private static void voteOfTwoAgainstOne() {
+        YesPlanes x = yesNoYes();
+        x.paint(1, 0, 10);
+        x.paint(2, 1, 12);
+        ends(x, "27: a light one first", 3, 3, BY_ROUNDS);
+        step(x, "28: a light one first", 0, 0, 2, 0, 1, 23);
+        step(x, "28: a light one first", 1, 0, -301, 0, 5, 22);
+        step(x, "28: a light one first", 2, 0, 1, 1, 6, 34);
+        masses(x, "30: a light one first", 11, 17, 28);
+        DUE.is("31: two against one", x.vote(1, 0), 0);
+        DUE.is("31: one against two", x.vote(2, 0), 0);
+        DUE.is("31: the other two against one", x.vote(3, 0), 1);
     }
 
     /** Promise 31: a place (any numbers). */

@@ -8,6 +8,7 @@ final class EdgesOfWaysTest {
         moreThanThereAre();
         bitsBeyondN();
         everySetOfThree();
+        theNextPlaces();
         coloursAreNotLookedAt();
         pointsBehindNAreNotLookedAt();
         allOfOnePlace();
@@ -103,6 +104,19 @@ final class EdgesOfWaysTest {
         }
         DUE.is("16: three corners", corners.ways(3), 8);
         DUE.is("16: a row", row.ways(3), 6);
+    }
+
+    private static void theNextPlaces() {
+        DUE.is("16: the least triangle", Given.points(0, 0, 0, 1, 0, 0, 0, 1, 0).ways(3), 8);
+        YesPlanes square = Given.points(0, 0, 0, 1, 0, 0, 1, 1, 0, 0, 1, 0);
+        DUE.is("16: the least square", square.ways(4), 14);
+        DUE.is("17: the least square's corners", square.isWay(4, 5), 0);
+        DUE.is("17: the least square's edge", square.isWay(4, 3), 1);
+        YesPlanes within = Given.points(0, 0, 0, 2, 1, 0, 1, 2, 0, 1, 1, 0);
+        DUE.is("16: one within the least triangle", within.ways(4), 14);
+        DUE.is("17: one within the least triangle", within.isWay(4, 8), 0);
+        DUE.is("17: one within, and a corner", within.isWay(4, 9), 1);
+        DUE.is("19: the least triangle", within.shatter(13), 1);
     }
 
     /** III: colours (and weights) are not looked at. */
