@@ -47,6 +47,9 @@ final class EdgesOfShapesTest {
         hull(new YesPlanes(), "32: no points", 1);
         hull(Given.points(1, 1, 0), "32: none of this colour", 1);
         hull(Given.points(1, 1, 1), "32: none of this colour", 0);
+        YesPlanes x = Given.points(0, 0, 1, 9, 0, 1, 0, 9, 1);
+        hull(x, "32: three of the other colour", 1, 0, 1, 2);
+        hull(x, "32: none of this colour, behind the other", 0);
     }
 
     /** V: one corner of a single place. */
@@ -305,6 +308,13 @@ final class EdgesOfShapesTest {
             slant.point(20 * k + 10, 20 * k - 10, 0);
         }
         DUE.is("35: a no in the box of each three in a row", slant.boxes(), 6);
+        YesPlanes outwards = new YesPlanes();
+        for (int k = 0; k < 12; k++) {
+            outwards.point(k % 2 == 0 ? 10 * k : -10 * k, 10 * (k % 3), 1);
+        }
+        DUE.is("35: twelve yes from the midst outwards", outwards.boxes(), 1);
+        outwards.point(115, 10, 0);
+        DUE.is("35: a no beside them all", outwards.boxes(), 1);
     }
 
     /** Promise 35: -5 more than 12 yes, ahead of -6. */
