@@ -15,7 +15,7 @@ public final class YesPlanes {
     private static final int NOT_SO = -6;
     private static final int NO_VALUE = -1000;
     private static final long NO_ANSWER = -1000000L;
-    private static final long NO_NUMBER = Long.MIN_VALUE;
+    private static final long NO_NUMBER = -9223372036854775808L;
 
     private static final int NO = 0;
     private static final int YES = 1;
@@ -690,6 +690,9 @@ public final class YesPlanes {
     }
 
     private static final class Way {
+        /** Above all a x + b y: those are at most 600 * 300 twice. */
+        private static final int BEYOND = 1000000;
+
         final Fraction width = new Fraction();
         boolean there = false;
         long lineA = 0;
@@ -747,8 +750,8 @@ public final class YesPlanes {
         }
 
         private void tryAcross(Points p, int newA, int newB) {
-            int low = Integer.MAX_VALUE;
-            int high = Integer.MIN_VALUE;
+            int low = BEYOND;
+            int high = -BEYOND;
             for (int i = 0; i < p.many; i++) {
                 int height = newA * p.x[i] + newB * p.y[i];
                 if (p.colour[i] == YES) {
@@ -1131,7 +1134,7 @@ public final class YesPlanes {
         }
 
         void findLeastWrong(Points p, int n) {
-            leastWrong = Integer.MAX_VALUE;
+            leastWrong = MOST_PARTED * HEAVIEST + 1;
             for (int set = 0; set <= all; set++) {
                 if (isMarked(set)) {
                     int wrong = wrongBy(p, n, set);
@@ -1380,7 +1383,7 @@ public final class YesPlanes {
             for (int i = 0; i < many; i++) {
                 total += masses[i];
             }
-            chosenWrong = Long.MAX_VALUE;
+            chosenWrong = total + 1;
             for (int ax = 0; ax <= 1; ax++) {
                 weigh(p, ax, LOWEST_EDGE);
                 for (int i = 0; i < many; i++) {
